@@ -25,13 +25,11 @@ public final class HeapProfiler {
     private final int[] presentIn = new int[PLACES];
     private final int[] kindOf = new int[ALL_OBJECTS];
     private final int[] sizeOf = new int[ALL_OBJECTS];
+    // Only the fields of objects that are there mean anything; make sets them.
     private final int[] fieldOf = new int[ALL_FIELDS];
     private final int[] rootOf = new int[ALL_ROOTS];
 
     public HeapProfiler() {
-        for (int i = 0; i < ALL_FIELDS; i++) {
-            fieldOf[i] = NOTHING;
-        }
         for (int i = 0; i < ALL_ROOTS; i++) {
             rootOf[i] = NOTHING;
         }
@@ -48,7 +46,6 @@ public final class HeapProfiler {
         presentIn[HEAP] |= 1 << o;
         kindOf[o] = kind;
         sizeOf[o] = size;
-        // The number may be that of an object that went, whose references still stand here.
         for (int f = 0; f < FIELDS; f++) {
             fieldOf[o * FIELDS + f] = NOTHING;
         }
