@@ -66,69 +66,51 @@ public final class ModelTest {
         return number(0, 3);
     }
 
-    private void same(String call, int got, int want) {
-        checks.due(call, got, want);
+    private void same(String name, int... args) {
+        Call call = new Call(name, args);
+        checks.due(call.toString(), call.on(program), call.on(model));
     }
 
-    private void changed(String call, int got, int want) {
-        same(call, got, want);
-        changes.append(' ').append(call);
+    private void changed(String name, int... args) {
+        same(name, args);
+        changes.append(' ').append(new Call(name, args));
     }
 
     private void change() {
         int choice = below(100);
         if (choice < 20) {
-            int r = number(0, 4);
-            int kind = kind();
-            int size = number(1, 99);
-            changed("make(" + r + ", " + kind + ", " + size + ")",
-                    program.make(r, kind, size), model.make(r, kind, size));
+            changed("make", number(0, 4), kind(), number(1, 99));
         } else if (choice < 70) {
-            int o = object();
-            int f = number(0, 4);
-            int p = reference();
-            changed("field(" + o + ", " + f + ", " + p + ")", program.field(o, f, p), model.field(o, f, p));
+            changed("field", object(), number(0, 4), reference());
         } else if (choice < 70 + loosening) {
-            int r = number(0, 4);
-            int p = below(2) == 0 ? -1 : object();
-            changed("root(" + r + ", " + p + ")", program.root(r, p), model.root(r, p));
+            changed("root", number(0, 4), below(2) == 0 ? -1 : object());
         } else if (choice < 71 + loosening) {
-            changed("collect()", program.collect(), model.collect());
+            changed("collect");
         } else if (choice < 73 + loosening) {
-            changed("sweep()", program.sweep(), model.sweep());
+            changed("sweep");
         } else if (choice < 77 + loosening) {
-            int d = number(0, 2);
-            changed("dump(" + d + ")", program.dump(d), model.dump(d));
+            changed("dump", number(0, 2));
         }
     }
 
     private void ask() {
-        int w = place();
-        int o = object();
-        int kind = kind();
-        String ofPlace = "(" + w + ")";
-        String ofObject = "(" + w + ", " + o + ")";
-        String ofKind = "(" + w + ", " + kind + ")";
         switch (below(16)) {
-            case 0 -> same("objects()", program.objects(), model.objects());
-            case 1 -> same("garbage()", program.garbage(), model.garbage());
-            case 2 -> same("leaked()", program.leaked(), model.leaked());
-            case 3 -> same("alive" + ofPlace, program.alive(w), model.alive(w));
-            case 4 -> same("bytes" + ofKind, program.bytes(w, kind), model.bytes(w, kind));
-            case 5 -> same("dominator" + ofObject, program.dominator(w, o), model.dominator(w, o));
-            case 6 -> same("retained" + ofObject, program.retained(w, o), model.retained(w, o));
-            case 7 -> same("retainedByKind" + ofKind, program.retainedByKind(w, kind), model.retainedByKind(w, kind));
-            case 8 -> same("heaviest" + ofPlace, program.heaviest(w), model.heaviest(w));
-            case 9 -> same("depth" + ofObject, program.depth(w, o), model.depth(w, o));
-            case 10 -> {
-                int i = number(0, 6);
-                same("way(" + w + ", " + o + ", " + i + ")", program.way(w, o, i), model.way(w, o, i));
-            }
-            case 11 -> same("holders" + ofObject, program.holders(w, o), model.holders(w, o));
-            case 12 -> same("rings" + ofPlace, program.rings(w), model.rings(w));
-            case 13 -> same("greatestRing" + ofPlace, program.greatestRing(w), model.greatestRing(w));
-            case 14 -> same("fresh()", program.fresh(), model.fresh());
-            default -> same("grown()", program.grown(), model.grown());
+            case 0 -> same("objects");
+            case 1 -> same("garbage");
+            case 2 -> same("leaked");
+            case 3 -> same("alive", place());
+            case 4 -> same("bytes", place(), kind());
+            case 5 -> same("dominator", place(), object());
+            case 6 -> same("retained", place(), object());
+            case 7 -> same("retainedByKind", place(), kind());
+            case 8 -> same("heaviest", place());
+            case 9 -> same("depth", place(), object());
+            case 10 -> same("way", place(), object(), number(0, 6));
+            case 11 -> same("holders", place(), object());
+            case 12 -> same("rings", place());
+            case 13 -> same("greatestRing", place());
+            case 14 -> same("fresh");
+            default -> same("grown");
         }
     }
 }
