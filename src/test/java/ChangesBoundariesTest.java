@@ -16,6 +16,7 @@ public final class ChangesBoundariesTest {
         newAsksAnswerAsEmpty();
         madeFieldsReferToNone();
         madeGetsTheLeastNumber();
+        madeIsOfThisKindAndSize();
         madeIsReferredToByTheRoot();
         makeTestsItsArguments();
         makeTestsArgumentsBeforeFull();
@@ -41,10 +42,12 @@ public final class ChangesBoundariesTest {
         sweepAgainAndAgain();
         sweepLeavesWhatARootRefersTo();
         sweepLeavesWhatAFieldRefersTo();
+        sweepIsOfTheHeapAlone();
         dumpTestsD();
         dumpOfAnEmptyHeap();
         dumpOfAFullHeap();
         dumpAnswersTheAlive();
+        dumpLeavesTheHeap();
         dumpTakesThePlaceOfTheOneBefore();
         dumpLeavesTheOtherOne();
         checks.end();
@@ -137,6 +140,20 @@ public final class ChangesBoundariesTest {
             x.due(o, "make", 3, 0, 1);
         }
         x.refused(FULL, "make", 3, 0, 1);
+    }
+
+    private static void madeIsOfThisKindAndSize() {
+        Run x = starts.row("promise 2: Makes an object of this kind and size, whatever had its number before", 24);
+        x.call("dump", 0);
+        x.call("root", 0, -1);
+        x.due(24, "collect");
+        for (int o = 0; o < 24; o++) {
+            x.due(o, "make", 2, 3 - o % 4, 99 - o);
+            x.due(99 - o, "bytes", 0, 3 - o % 4);
+            x.due(99 - o, "bytes", 0, -1);
+        }
+        x.due(300, "bytes", 1, -1);
+        x.due(66, "bytes", 1, 0);
     }
 
     private static void madeIsReferredToByTheRoot() {
@@ -440,6 +457,18 @@ public final class ChangesBoundariesTest {
         }
     }
 
+    private static void sweepIsOfTheHeapAlone() {
+        Run x = starts.few("promise 6: Answers how many");
+        x.due(1, "sweep");
+        x.due(4, "objects");
+        x.due(15, "garbage");
+        x.due(3, "alive", 0);
+        x.due(4, "alive", 1);
+        x.due(5, "alive", 2);
+        x.refused(NONE, "field", 0, 0, -1);
+        x.due(5, "field", 5, 0, 5);
+    }
+
     private static void dumpTestsD() {
         for (Run x : starts.all("promise 7: BAD_ARG if d is not 0 or 1")) {
             for (int d : Edges.outside(0, 1)) {
@@ -487,6 +516,23 @@ public final class ChangesBoundariesTest {
             x.due(5, "objects");
             x.due(NONE, "depth", 1 + d, 0);
             x.due(NONE, "depth", 1 + d, 5);
+        }
+    }
+
+    private static void dumpLeavesTheHeap() {
+        for (int d = 0; d < 2; d++) {
+            Run x = starts.few("promise 7: The heap is copied, and stays as it is");
+            x.due(3, "dump", d);
+            x.refused(3, "dump", d);
+            x.due(5, "objects");
+            x.due(99 + 15, "garbage");
+            x.due(1, "leaked");
+            x.due(5, "field", 5, 0, 5);
+            x.due(1, "field", 7, 0, 1);
+            x.due(7, "root", 0, 7);
+            x.due(-1, "root", 1, -1);
+            x.due(2, "root", 2, 2);
+            x.due(-1, "root", 3, -1);
         }
     }
 

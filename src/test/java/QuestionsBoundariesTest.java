@@ -49,7 +49,7 @@ public final class QuestionsBoundariesTest {
         grownOfSeveral();
         grownWhenAllShrank();
         grownWithEmptyDumps();
-        grownAtTheExtremes();
+        grownFrom1To2376();
         questionsChangeNothing();
         checks.end();
     }
@@ -549,23 +549,22 @@ public final class QuestionsBoundariesTest {
         x.due(0, "grown");
     }
 
-    private static void grownAtTheExtremes() {
-        Run x = starts.none("promise 23: all 24 objects of the greatest size");
+    private static void grownFrom1To2376() {
+        Run x = starts.none("promise 23: one kind, from 1 object to 24, all of the greatest size");
         for (int o = 0; o < 24; o++) {
-            x.call("make", 0, 0, 99);
-            if (o > 0) {
-                x.call("field", o, 0, o - 1);
-            }
+            x.call("make", 0, 3, 99);
+            x.call("field", o, 0, o - 1);
+            x.call("dump", 1);
+            x.due(3, "grown");
         }
         x.call("dump", 0);
-        x.due(1, "grown");
+        x.due(0, "grown");
+        x.call("root", 0, 22);
         x.call("dump", 1);
         x.due(0, "grown");
         x.call("root", 0, -1);
-        x.call("collect");
-        x.call("make", 0, 3, 1);
         x.call("dump", 1);
-        x.due(3, "grown");
+        x.due(0, "grown");
     }
 
     private static void questionsChangeNothing() {

@@ -454,6 +454,13 @@ public final class TermsBoundariesTest {
         x.call("field", 22, 1, 0);
         x.due(1, "rings", 0);
         x.due(24, "greatestRing", 0);
+        Run ends = starts.loose("of which each comes to each: the least and the greatest number", 24);
+        ends.call("root", 0, 23);
+        ends.call("field", 23, 0, 0);
+        ends.due(0, "rings", 0);
+        ends.call("field", 0, 0, 23);
+        ends.due(1, "rings", 0);
+        ends.due(2, "greatestRing", 0);
     }
 
     private static void places0To2() {
