@@ -248,7 +248,7 @@ public final class QuestionsBoundariesTest {
     }
 
     private static void retainedByKindFrom0To2376() {
-        Run x = greatest("promise 15: The sum of the sizes of the objects that would not be alive, from 0 to 24 times 99");
+        Run x = greatest("promise 15: The sum of the sizes .. that would not be alive, from 0 to 24 times 99");
         for (int kind = 0; kind < 4; kind++) {
             x.due((24 - kind) * 99, "retainedByKind", 0, kind);
         }

@@ -54,7 +54,7 @@ final class Starts {
         return x;
     }
 
-    /** 24 objects: a row of alive ones that ends in a ring, dead rings, dead ones that refer to alive ones; two dumps. */
+    /** 24 objects: a row of alive ones that ends in a ring, dead rings, a dead one that holds an alive one; two dumps. */
     Run full(String sentence) {
         Run x = none(sentence);
         for (int o = 0; o < 24; o++) {
