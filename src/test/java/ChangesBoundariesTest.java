@@ -14,6 +14,7 @@ public final class ChangesBoundariesTest {
         newHasRootsToNone();
         newHasEmptyDumps();
         newAsksAnswerAsEmpty();
+        newOnesAreApart();
         madeFieldsReferToNone();
         madeGetsTheLeastNumber();
         madeIsOfThisKindAndSize();
@@ -107,6 +108,33 @@ public final class ChangesBoundariesTest {
             x.due(0, "rings", w);
             x.due(0, "greatestRing", w);
         }
+    }
+
+    private static void newOnesAreApart() {
+        String sentence = "promise 1: No object, all roots refer to none, both dumps are empty: whatever others have";
+        Run old = starts.row(sentence, 24);
+        old.call("dump", 0);
+        old.call("dump", 1);
+        Run x = starts.none(sentence);
+        x.due(0, "objects");
+        for (int w = 0; w < 3; w++) {
+            x.due(0, "alive", w);
+        }
+        x.due(-1, "root", 0, -1);
+        x.due(0, "make", 3, 3, 99);
+        x.due(-1, "field", 0, 0, 0);
+        x.due(1, "dump", 1);
+        checks.about(sentence + ", and the others stay as they are");
+        old.due(24, "objects");
+        for (int w = 0; w < 3; w++) {
+            old.due(24, "alive", w);
+            old.due(300, "bytes", w, -1);
+            old.due(66, "bytes", w, 0);
+            old.due(0, "rings", w);
+        }
+        old.due(0, "root", 0, -1);
+        old.due(-1, "root", 3, -1);
+        old.due(1, "field", 0, 0, -1);
     }
 
     private static void madeFieldsReferToNone() {

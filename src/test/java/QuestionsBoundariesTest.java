@@ -34,6 +34,7 @@ public final class QuestionsBoundariesTest {
         retainedByKindTakesAllOfAKindAtOnce();
         heaviestOfSeveral();
         heaviestOfNone();
+        heaviestOfOneThatRetains1();
         depthFrom1To24();
         depthOfOneNotAlive();
         wayWithTheLesserNumber();
@@ -303,6 +304,22 @@ public final class QuestionsBoundariesTest {
         x.due(23, "heaviest", 0);
         x.due(NONE, "heaviest", 1);
         x.due(NONE, "heaviest", 2);
+    }
+
+    private static void heaviestOfOneThatRetains1() {
+        for (int o = 0; o < 24; o++) {
+            Run x = starts.none("promise 16: for which retained is greatest, be it 1");
+            for (int made = 0; made < 24; made++) {
+                x.call("make", 0, 3, made == o ? 1 : 99);
+            }
+            x.call("root", 0, o);
+            x.call("dump", 0);
+            x.call("dump", 1);
+            for (int w = 0; w < 3; w++) {
+                x.due(1, "retained", w, o);
+                x.due(o, "heaviest", w);
+            }
+        }
     }
 
     private static void depthFrom1To24() {

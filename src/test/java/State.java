@@ -17,17 +17,37 @@ final class State {
             calls.add(new Call(name));
         }
         for (int w = 0; w < 3; w++) {
-            for (String name : new String[] {"alive", "heaviest", "rings", "greatestRing"}) {
-                calls.add(new Call(name, w));
-            }
-            calls.add(new Call("bytes", w, -1));
-            for (int kind = 0; kind < 4; kind++) {
-                calls.add(new Call("bytes", w, kind));
-                calls.add(new Call("retainedByKind", w, kind));
-            }
+            calls.addAll(questionsOfAllObjects(w));
             for (int o = 0; o < 24; o++) {
                 calls.add(new Call("depth", w, o));
             }
+        }
+        return calls;
+    }
+
+    /** All that can be asked of a place. */
+    static List<Call> questionsOf(int w) {
+        List<Call> calls = questionsOfAllObjects(w);
+        for (int o = 0; o < 24; o++) {
+            for (String name : new String[] {"dominator", "retained", "depth", "holders"}) {
+                calls.add(new Call(name, w, o));
+            }
+            for (int i = 0; i < 24; i++) {
+                calls.add(new Call("way", w, o, i));
+            }
+        }
+        return calls;
+    }
+
+    private static List<Call> questionsOfAllObjects(int w) {
+        List<Call> calls = new ArrayList<>();
+        for (String name : new String[] {"alive", "heaviest", "rings", "greatestRing"}) {
+            calls.add(new Call(name, w));
+        }
+        calls.add(new Call("bytes", w, -1));
+        for (int kind = 0; kind < 4; kind++) {
+            calls.add(new Call("bytes", w, kind));
+            calls.add(new Call("retainedByKind", w, kind));
         }
         return calls;
     }

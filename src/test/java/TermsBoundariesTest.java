@@ -34,6 +34,7 @@ public final class TermsBoundariesTest {
         theDominatorIsTheLast();
         retainsItself();
         aloneInARing();
+        anyOneAloneInARing();
         aRingIsAGreatestSet();
         eachComesToEach();
         places0To2();
@@ -427,6 +428,19 @@ public final class TermsBoundariesTest {
             x.call("field", 1, f, 1);
             x.due(1, "rings", 0);
             x.due(1, "greatestRing", 0);
+        }
+    }
+
+    private static void anyOneAloneInARing() {
+        for (int o = 0; o < 24; o++) {
+            Run x = starts.row("an object alone is one if a field of its own refers to it: any of the 24", 24);
+            x.call("field", o, 2, o);
+            x.call("dump", 0);
+            x.call("dump", 1);
+            for (int w = 0; w < 3; w++) {
+                x.due(1, "rings", w);
+                x.due(1, "greatestRing", w);
+            }
         }
     }
 
